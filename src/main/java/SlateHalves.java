@@ -339,34 +339,26 @@ public final class SlateHalves {
     }
 
     public int dryness(int block, int what) {
-        Block asked = now.yard.find(block);
-        if (asked == null || !isWithin(what, 0, 1)) {
-            return NONE;
-        }
-        int many = 0;
-        int least = MISSING;
-        for (int dry = MOST_DRY; dry >= 0; dry--) {
-            blows.setAs(asked, asked.v, dry, now.yard.day);
-            if (isAllSeenSo()) {
-                many++;
-                least = dry;
-            }
-        }
-        return what == 0 ? many : least;
+        return fitting(block, what, MOST_DRY, true);
     }
 
     public int can(int block, int what) {
+        return fitting(block, what, MOST_V, false);
+    }
+
+    /** Of the numbers 0 .. most that DRY (or else v) may be by all of SEEN: how many, or the least. */
+    private int fitting(int block, int what, int most, boolean isDry) {
         Block asked = now.yard.find(block);
         if (asked == null || !isWithin(what, 0, 1)) {
             return NONE;
         }
         int many = 0;
         int least = MISSING;
-        for (int v = MOST_V; v >= 0; v--) {
-            blows.setAs(asked, v, asked.dry, now.yard.day);
+        for (int n = most; n >= 0; n--) {
+            blows.setAs(asked, isDry ? asked.v : n, isDry ? n : asked.dry, now.yard.day);
             if (isAllSeenSo()) {
                 many++;
-                least = v;
+                least = n;
             }
         }
         return what == 0 ? many : least;

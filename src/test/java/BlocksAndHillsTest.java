@@ -280,8 +280,14 @@ public final class BlocksAndHillsTest {
             checks.due("of(1, " + what + ")", y.of(1, what), due[what]);
         }
         checks.due("row(1, 1, 0)", y.row(1, 1, 0), 4);
+        checks.due("strike(1, 1)", y.strike(1, 1), 0);
+        y.dry(1, 9);
         y.undo();
         y.block(6, 2, 3);
+        int[] fresh = {6, 2, 3, 0, 0};
+        for (int what = 0; what < fresh.length; what++) {
+            checks.due("of(1, " + what + "), a new block", y.of(1, what), fresh[what]);
+        }
         checks.due("row(1, 1, 0), a new block", y.row(1, 1, 0), 0);
     }
 

@@ -10,7 +10,6 @@ public final class RandomRunsTest {
         Integer.MIN_VALUE, Integer.MIN_VALUE + 1, Integer.MIN_VALUE + 20, -1000000, -129, -61, -5, -4, -3, -2, -1, 0, 1, 2, 3, 4, 5,
         6, 7, 8, 9, 10, 11, 12, 13, 14, 15, 16, 19, 20, 25, 26, 59, 60, 61, 99, 100, 101, 127, 128, 999, 99999,
         100000, 1000000, Integer.MAX_VALUE - 1, Integer.MAX_VALUE};
-    private static final String SIGNS = "dear cheap thin thick wind;0123456789()!|&<=>bkvtdyq";
 
     private final Random random;
     private final SlateHalves program = new SlateHalves();
