@@ -26,6 +26,8 @@ public final class SlateHalves {
     private static final int ON_DRY = 10, ON_BEST = 20;
     private static final int BYTES = 0, SHORTS = 1, INTS = 2, LONGS = 3, BOOLEANS = 4;
     private static final int ROW_ENDED = 100;
+    /** As thick as all BLOCKS together can be: no fraction holds a greater number. */
+    private static final int GREATEST_SUM = BLOCKS * MOST_THICK;
 
     private final Scene now = new Scene();
     private final Scene kept = new Scene();
@@ -521,10 +523,12 @@ public final class SlateHalves {
         if (asked == null) {
             return NOTHING;
         }
-        for (int kind = asked.kind; isWithin(kind, PLAIN, TOLD); kind = ABOVE[kind]) {
+        int kind = asked.kind;
+        for (int i = PLAIN; i <= TOLD && isWithin(kind, PLAIN, TOLD); i++) {
             if (kind == k) {
                 return asked.kind;
             }
+            kind = ABOVE[kind];
         }
         return CAST;
     }
@@ -627,7 +631,8 @@ public final class SlateHalves {
         }
         int divisor = below;
         int rest = above;
-        while (rest != 0) {
+        // Far fewer steps do: what is left is halved in two of them.
+        for (int i = 0; i < GREATEST_SUM && rest != 0; i++) {
             int next = divisor % rest;
             divisor = rest;
             rest = next;

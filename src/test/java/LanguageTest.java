@@ -99,7 +99,7 @@ public final class LanguageTest {
     }
 
     private static void words(String code) {
-        checks.begin("rules 3 to 6, the words");
+        checks.begin("rules 3 to 6 and 9, the words");
         for (String word : List.of("throw", "throws", "try", "catch", "finally", "synchronized", "assert", "record",
                 "float", "double", "package", "System\\.out", "currentTimeMillis", "nanoTime", "Random", "Thread",
                 "equals", "hashCode", "toString", "Object", "Integer\\.valueOf", "var", "transient", "volatile",
@@ -111,7 +111,13 @@ public final class LanguageTest {
         checks.holds("no exact function", !code.contains("Exact"));
         checks.holds("no static block", !Pattern.compile("static\\s*\\{").matcher(code).find());
         checks.holds("no annotation", !code.contains("@"));
-        checks.holds("no loop without an end to see", !Pattern.compile("while\\s*\\(true|for\\s*\\(\\s*;").matcher(code).find());
+        checks.holds("no loop without a counter", !Pattern.compile("\\b(while|do)\\b").matcher(code).find());
+        Matcher loops = Pattern.compile("\\bfor \\((.*)\\) \\{").matcher(code);
+        while (loops.find()) {
+            String head = loops.group(1);
+            checks.holds("for (" + head + ") counts to a bound",
+                    head.matches("int (\\w+) = [^;]+; \\1 (<|<=|>=) [^;]+; \\1(\\+\\+|--)"));
+        }
         Matcher imports = Pattern.compile("import\\s+([\\w.*]+)\\s*;").matcher(code);
         while (imports.find()) {
             checks.holds("import of " + imports.group(1), LIBRARY.contains(imports.group(1)));
