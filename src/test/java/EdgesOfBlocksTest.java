@@ -22,6 +22,7 @@ public final class EdgesOfBlocksTest {
         worthEdges();
         worthHalf();
         best();
+        bestOfNow();
         few();
         many();
         halves();
@@ -390,6 +391,24 @@ public final class EdgesOfBlocksTest {
         }
         checks.begin("3, BEST by the PRICE of its BLOCK, whatever the pieces are");
         checks.due("t by 10", Given.blockBy("dear 5 t=1;cheap 3 t=0", 0, 0, 10).of(0, 9), 75);
+    }
+
+    private static void bestOfNow() {
+        checks.begin("3, BEST, with a vein at t, where there is no blow, whatever it was before");
+        SlateHalves x = Given.blockBy("dear 90 y=0;thin 4;thick 4", 2, 3, 4);
+        for (int what = 9; what <= 13; what++) {
+            x.of(0, what);
+        }
+        checks.due("of(0, 9), dear", x.of(0, 9), 100);
+        x.pass(1);
+        checks.due("of(0, 9), no more", x.of(0, 9), 10);
+        checks.due("of(0, 10)", x.of(0, 10), 0);
+        checks.due("of(0, 11)", x.of(0, 11), 1);
+        checks.due("of(0, 13)", x.of(0, 13), 0);
+        Checks.hill(x, "thin 5");
+        checks.due("of(0, 9), too thin", x.of(0, 9), 0);
+        checks.due("of(0, 11), too thin", x.of(0, 11), 0);
+        checks.due("of(0, 12), too thin", x.of(0, 12), 0);
     }
 
     private static void few() {

@@ -229,6 +229,9 @@ public final class EdgesOfTapesTest {
             x.book(0, 20);
         }
         x.image();
+        x.see(-1, 0, true);
+        x.week(-1, 0);
+        x.book(-1, 0);
         for (int i = 0; i < 4; i++) {
             x.see(9, 20, true);
             x.week(0, 0);
